@@ -2049,10 +2049,12 @@ public final class ContentRules {
         }
 
         private boolean isKnown() {
-            for (int i = buckets[bucketOf(oneNow, twoNow)]; i != NONE; i = older[i]) {
+            int i = buckets[bucketOf(oneNow, twoNow)];
+            for (int n = 0; n < size && i != NONE; n++) {
                 if (ones[i] == oneNow && twos[i] == twoNow) {
                     return true;
                 }
+                i = older[i];
             }
             return false;
         }
@@ -2277,7 +2279,7 @@ public final class ContentRules {
 
         private int ancestor(int thing, int level) {
             int at = thing;
-            while (around[at] > level && parent[at] != NONE) {
+            for (int n = around[thing]; n > level && parent[at] != NONE; n--) {
                 at = parent[at];
             }
             return at;

@@ -386,6 +386,10 @@ public final class PromiseTest {
         due("ordered", y.shown(0, false, 4), 23);
         due("ahead", y.witness(0, false, 5), 4);
         due("P", y.witness(0, false, 0), 1);
+        // Three letters by a COUNT are fewer than four that stand ahead by letters.
+        ContentRules z = rules("a=b,b,b,b,(c|c)|d{3},(c|c)");
+        due("three ahead", z.witness(0, false, 5), 3);
+        due("d", z.shown(0, false, 0), 3);
     }
 
     private static void shortestWords() {
