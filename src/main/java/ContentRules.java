@@ -177,7 +177,7 @@ public final class ContentRules {
             case 5: return bit(its.clear);
             case 6: return bit(its.sure);
             case 7: return its.conflicts;
-            case 8: return its.root.needed();
+            case 8: return its.root.least;
             case 9: return its.root.most;
             case 10: return its.lettersIn(its.root.inside);
             default: throw new NoSuchElementException("no such what");
@@ -279,7 +279,7 @@ public final class ContentRules {
 
     public int shortest(int rule, int k) {
         Rule its = ruleAt(rule);
-        if (its == null || its.root == null || k < 0 || k >= its.root.needed()) {
+        if (its == null || its.root == null || k < 0 || k >= its.root.least) {
             return NONE;
         }
         if (shortestOf != rule) {
@@ -501,7 +501,7 @@ public final class ContentRules {
         int first;
         int last;
         int inside;
-        /** Letters of the shortest WORD that isn't empty (NONE: there is none). */
+        /** Letters of the shortest WORD. */
         int least;
         /** Letters of the longest WORD (NONE: without end). */
         int most;
@@ -543,11 +543,6 @@ public final class ContentRules {
 
         static int numberOf(Node node) {
             return node == null ? NONE : node.number;
-        }
-
-        /** Letters of the shortest WORD. */
-        int needed() {
-            return empty ? 0 : least;
         }
     }
 
@@ -1006,7 +1001,7 @@ public final class ContentRules {
 
         private void learnNothing(Node node) {
             node.empty = true;
-            node.least = NONE;
+            node.least = 0;
             node.most = 0;
         }
 
@@ -1034,36 +1029,28 @@ public final class ContentRules {
             int longest = 0;
             for (Node part = node.child; part != null; part = part.next) {
                 isEmpty = isEmpty && part.empty;
-                sum += part.needed();
+                sum += part.least;
                 longest = longest == NONE || part.most == NONE ? NONE : longest + part.most;
             }
             node.empty = isEmpty;
-            node.least = isEmpty ? leastOfOne(node) : sum;
+            node.least = sum;
             node.most = longest;
-        }
-
-        private static int leastOfOne(Node node) {
-            int best = NONE;
-            for (Node part = node.child; part != null; part = part.next) {
-                if (part.least != NONE && (best == NONE || part.least < best)) {
-                    best = part.least;
-                }
-            }
-            return best;
         }
 
         private void learnChoice(Node node) {
             boolean isEmpty = false;
+            int fewest = NONE;
             int longest = 0;
             for (Node part = node.child; part != null; part = part.next) {
                 isEmpty = isEmpty || part.empty;
+                fewest = fewest == NONE ? part.least : Math.min(fewest, part.least);
                 longest = longest == NONE || part.most == NONE ? NONE : Math.max(longest, part.most);
                 for (int n = 1; n < LENGTHS; n++) {
                     node.readings[n] += part.readings[n];
                 }
             }
             node.empty = isEmpty;
-            node.least = leastOfOne(node);
+            node.least = fewest;
             node.most = longest;
         }
 
@@ -1074,7 +1061,7 @@ public final class ContentRules {
             }
             int fewest = body.empty || from < 1 ? 1 : from;
             node.empty = from == 0 || body.empty;
-            node.least = body.least == NONE ? NONE : body.least * fewest;
+            node.least = node.empty ? 0 : body.least * fewest;
             if (body.most == 0) {
                 node.most = 0;
             } else {
@@ -1326,7 +1313,7 @@ public final class ContentRules {
         void spellShortest(Rule its) {
             rule = its;
             size = 0;
-            if (its.root != null && !its.root.empty) {
+            if (its.root != null) {
                 spell(its.root, 0);
             }
             for (int k = 0; k < size && k < MOST_SPELLED; k++) {
@@ -1360,7 +1347,7 @@ public final class ContentRules {
         private static int neededAhead(Node node, Node up) {
             int length = 0;
             for (Node part = up.child; part != null && part != node; part = part.next) {
-                length += part.needed();
+                length += part.least;
             }
             return length;
         }
@@ -1373,7 +1360,7 @@ public final class ContentRules {
             int length = 0;
             for (Node part = any.child; part != null; part = part.next) {
                 if ((places >> part.place & 1) != 0) {
-                    length += part.needed();
+                    length += part.least;
                 }
             }
             return length;
@@ -1412,16 +1399,16 @@ public final class ContentRules {
             }
         }
 
-        /** The shortest WORD of a node that isn't empty. */
+        /** The shortest WORD of a node. */
         private void spell(Node node, int depth) {
-            if (depth > MOST_DEPTH || node.least == NONE) {
+            if (depth > MOST_DEPTH || node.empty) {
                 return;
             }
             if (node.kind == Node.LETTER) {
                 write(rule.letterOf[node.number]);
             } else if (node.kind == Node.COUNTED) {
                 spellTimes(node.child, rule.fewest[node.number], depth + 1);
-            } else if (node.kind == Node.CHOICE || node.empty) {
+            } else if (node.kind == Node.CHOICE) {
                 spellBest(node, depth + 1);
             } else if (node.kind == Node.ROW) {
                 spellRow(node, null, depth + 1);
@@ -1432,9 +1419,7 @@ public final class ContentRules {
 
         private void spellRow(Node row, Node until, int depth) {
             for (Node part = row.child; part != null && part != until; part = part.next) {
-                if (!part.empty) {
-                    spell(part, depth);
-                }
+                spell(part, depth);
             }
         }
 

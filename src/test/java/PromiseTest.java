@@ -390,6 +390,31 @@ public final class PromiseTest {
         ContentRules z = rules("a=b,b,b,b,(c|c)|d{3},(c|c)");
         due("three ahead", z.witness(0, false, 5), 3);
         due("d", z.shown(0, false, 0), 3);
+        // A lower WAY that asks for more TIMES, or for a PART over, stands behind more letters.
+        ContentRules times = rules("x=[a?&(b,(c|c)?){2}],a");
+        due("P", times.witness(0, false, 0), 1);
+        due("lower", times.witness(0, false, 1), 2);
+        due("one ahead", times.witness(0, false, 5), 1);
+        ContentRules parts = rules("x=[a?&[d&b,(c|c)?]],a");
+        due("P", parts.witness(0, false, 0), 2);
+        due("lower", parts.witness(0, false, 1), 3);
+        due("one ahead", parts.witness(0, false, 5), 1);
+    }
+
+    private static void mostConflicts() {
+        StringBuilder row = new StringBuilder("(a|0)");
+        for (int i = 1; i < 16; i++) {
+            row.append(",(a|0)");
+        }
+        ContentRules x = rules("x=((" + row + "){2,3})*");
+        // 16 FIRST ones; behind the i-th 15 - i in its row, and 16 by each COUNT.
+        int conflicts = 120;
+        for (int i = 0; i < 16; i++) {
+            int n = 15 - i + 32;
+            conflicts += n * (n - 1) / 2;
+        }
+        due("most conflicts", x.rule(0, 7), conflicts);
+        due("all are NEXT", x.occurrence(0, 15, 3), 65535);
     }
 
     private static void shortestWords() {
@@ -424,6 +449,10 @@ public final class PromiseTest {
         due("nothing", x.words(3, 0), 1);
         due("nothing more", x.words(3, 1), 0);
         due("five", x.words(0, 5), NONE);
+        ContentRules y = rules("a=[a?&b?&c?&d?];b=[a?&b?]");
+        due("four of four", y.words(0, 4), 24);
+        due("two of two", y.words(1, 2), 2);
+        due("no more of two", y.words(1, 4), 0);
         due("below", x.words(0, -1), NONE);
         due("no rule", x.words(4, 0), NONE);
     }
@@ -702,6 +731,7 @@ public final class PromiseTest {
         aboutRules();
         aboutSigns();
         witnesses();
+        mostConflicts();
         shortestWords();
         numbersOfWords();
         reading();
