@@ -811,21 +811,19 @@ public final class ContentRules {
                 return false;
             }
             int to = from;
-            boolean isEnough = from >= 1;
-            if (sign() == ',') {
+            boolean isRange = sign() == ',';
+            if (isRange) {
                 at++;
                 to = NONE;
-                isEnough = true;
                 if (sign() != '}') {
-                    int least = Math.max(from, 1);
-                    to = amount(least);
+                    to = amount(Math.max(from, 1));
                     if (to == NONE) {
                         return false;
                     }
-                    isEnough = to >= least;
                 }
             }
-            if (sign() != '}' || !isEnough) {
+            // The first N is the last one, too, if no comma came: only here is a 0 too little.
+            if (sign() != '}' || !isRange && from < 1) {
                 return fails();
             }
             at++;
@@ -834,7 +832,10 @@ public final class ContentRules {
             return true;
         }
 
-        /** One N, or NONE behind a FAULT; of one digit it may still be too little: the } tells. */
+        /**
+         * One N, or NONE behind a FAULT. One digit that is too little waits for another right behind
+         * it: whatever else stands there, a blank too, ends the N, so that byte is the FAULT.
+         */
         private int amount(int least) {
             int sign = sign();
             if (!isDigit(sign) || !canBegin(sign - '0', least)) {
@@ -843,12 +844,15 @@ public final class ContentRules {
             }
             int value = sign - '0';
             at++;
-            if (at < length && isDigit(bytes[at])) {
+            boolean isOfTwo = at < length && isDigit(bytes[at]);
+            if (isOfTwo) {
                 value = value * 10 + bytes[at] - '0';
-                if (value > MOST_TIMES || value < least) {
-                    faultAt = at;
-                    return NONE;
-                }
+            }
+            if (value > MOST_TIMES || value < least) {
+                faultAt = at;
+                return NONE;
+            }
+            if (isOfTwo) {
                 at++;
             }
             return value;

@@ -4,7 +4,7 @@ import java.util.Random;
 
 /**
  * FAULTS of random TEXTS. For RULES an own recogniser tells which TEXTS there are, and whether
- * some end makes a begin one of them; the FAULT is the first sign behind which none does.
+ * some end makes a begin one of them; the FAULT is the first byte (a blank, too) behind which none does.
  */
 public final class FaultTest {
     private static final int TEXTS = 12000;
@@ -214,7 +214,7 @@ public final class FaultTest {
             return NONE;
         }
         for (int i = 0; i < whole.length(); i++) {
-            if (whole.charAt(i) != ' ' && !hasEnd(whole.substring(0, i + 1))) {
+            if (!hasEnd(whole.substring(0, i + 1))) {
                 return i;
             }
         }
@@ -410,7 +410,15 @@ public final class FaultTest {
                 checkRules("a=b{" + from + "," + to + "}");
                 checkRules("a=b{0" + from + ",0" + to + "}");
                 checkRules("a=b{" + from + ",0" + to + "}");
+                checkRules("a=b{" + from + ", " + to + " }");
+                checkRules("a=b{" + from + "," + to + " ");
+                checkRules("a=b{" + from + "," + to);
+                checkRules("a=b{" + from + " ,0" + to + "  ,");
+                checkRules("a=b{" + from + "," + to / 10 + " " + to % 10 + "}");
             }
+            checkRules("a=b{ " + from + " }");
+            checkRules("a=b{" + from + " , }");
+            checkRules("a=b{" + from + " ");
             checkRules("a=b{" + from + "}");
             checkRules("a=b{" + from + ",}");
         }

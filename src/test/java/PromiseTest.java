@@ -206,7 +206,18 @@ public final class PromiseTest {
         // Behind 10 nothing can come here: the digit is at fault, not the } behind it.
         due("{12,10}", fault("a=b{12,10}", 0), 8);
         due("{0,00}", fault("a=b{0,00}", 0), 7);
-        due("{3,1 }", fault("a=b{3,1 }", 0), 8);
+        // The blank ends the N, that is too little then: no TEXT goes on with it.
+        due("{3,1 }", fault("a=b{3,1 }", 0), 7);
+        due("{3,1 ", fault("a=b{3,1 ", 0), 7);
+        due("{3, 1 2}", fault("a=b{3, 1 2}", 0), 8);
+        due("{3,1", fault("a=b{3,1", 0), 7);
+        due("{3,1;", fault("a=b{3,1;", 0), 7);
+        due("{0,0  }", fault("a=b{0,0  }", 0), 7);
+        due("{3,3 }", fault("a=b{3,3 }", 0), NONE);
+        due("{3,12 }", fault("a=b{3,12 }", 0), NONE);
+        // Behind a first N of 0 a comma can still come, behind blanks too.
+        due("{0 }", fault("a=b{0 }", 0), 6);
+        due("{0 ,1 }", fault("a=b{0 ,1 }", 0), NONE);
         due("{2", fault("a=b{2", 0), 5);
         due("{2,", fault("a=b{2,", 0), 6);
         due("{2,3", fault("a=b{2,3", 0), 7);
