@@ -356,6 +356,10 @@ public final class RuleEdgesTest {
         witness("none ahead of all", "[b?&c?]*", false, "bc", 0, 1, NONE, 1, 2);
         witness("lower COUNTS first", "(b*)*", false, "bb", 0, 0, 0, 0, 1);
         witness("lower COUNTS first", "(b{1,2}){2}", false, "bb", 0, 0, 0, 0, 1);
+        // The lower WAY decides, whichever of the others is lower.
+        witness("then the lowest OCCURRENCE of a WAY", "(b|c|d,(c|b)?)*", false, "db", 2, 0, 1, 4, NONE);
+        // One with a lower WAY stands behind more TIMES.
+        witness("the shortest READ letters", "((a,b,(c|c|0)){2},(a|d)?)*", false, "abc", 1, 2, NONE, 3, NONE);
         witness("not CLEAR: unlike OCCURRENCES alone", "(b{1,2}){2},c,(d|d)", true, "bbcd", 1, 2, NONE, 3, NONE);
         witness("not SURE: these, too", "(b{1,2}){2},c,(d|d)", false, "bb", 0, 0, 0, 0, 1);
         witness("as many TIMES as are needed", "(b,c){3,4},b", false, "bcbcbcb", 1, 0, 0, 2, NONE);
@@ -483,6 +487,8 @@ public final class RuleEdgesTest {
         unlike("4 letters at most", "b{0,4}", "b*", "none");
         unlike("4 letters at most", "b{4}", "c{4}", "bbbb");
         unlike("4 letters at most", "b{5}", "c{5}", "none");
+        unlike("all letters of it", "b,c,d,e", "b,c,d,f", "bcde");
+        unlike("all letters of it", "b,c,d", "b,c,e", "bcd");
         unlike("there is none such", "[b&c]", "b,c|c,b", "none");
         unlike("there is none such", "0", "0{12}", "none");
         unlike("a letter that one alone has", "b", "b|z", "z");
@@ -508,6 +514,12 @@ public final class RuleEdgesTest {
             SHEET.due("no such RULE", x.unlike(no, 0, NONE), NONE);
             SHEET.due("no such RULE", x.unlike(0, no, NONE), NONE);
         }
+        ContentRules three = SHEET.with("a=b,c;d=b,e;f=b?");
+        SHEET.dueText("of these two", Sheet.unlike(three, 0, 1), "bc");
+        SHEET.dueText("of these two", Sheet.unlike(three, 2, 1), "");
+        SHEET.dueText("of these two", Sheet.unlike(three, 2, 0), "");
+        SHEET.dueText("of these two", Sheet.unlike(three, 1, 0), "bc");
+        SHEET.dueText("of these two", Sheet.unlike(three, 1, 1), "none");
         ContentRules y = SHEET.with("a=b?;c=b");
         SHEET.due("the empty WORD has no letters", y.unlike(0, 1, NONE), 0);
         SHEET.due("the empty WORD has no letters", y.unlike(0, 1, 0), NONE);

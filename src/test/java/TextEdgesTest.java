@@ -479,6 +479,36 @@ public final class TextEdgesTest {
         SHEET.due("399", full.count(0), 399);
     }
 
+    /** What was behind the last byte before is no part of the TEXT. */
+    private static void endHidesTheRest() {
+        String[] texts = {"a=b{12}", "a=b{1,12}", "a=b,c;d=e", "a=[b&c]{10,}", "a=((b)|0)"};
+        for (String text : texts) {
+            for (int n = text.length(); n >= 0; n--) {
+                ContentRules fresh = new ContentRules();
+                Sheet.tape(fresh, text.substring(0, n));
+                ContentRules used = new ContentRules();
+                Sheet.tape(used, text);
+                SHEET.due(text + " ended at " + n, used.end(n), true);
+                SHEET.due(text + " ended at " + n, used.fault(0), fresh.fault(0));
+                SHEET.due(text + " ended at " + n, used.fault(1), fresh.fault(1));
+                ContentRules full = new ContentRules();
+                Sheet.tape(full, Sheet.repeat(" ", "", 400 - n) + text.substring(0, n));
+                int late = fresh.fault(0) == NONE ? NONE : fresh.fault(0) + 400 - n;
+                SHEET.due(text + " up to " + n + " ends at 400", full.fault(0), late);
+            }
+        }
+        ContentRules x = new ContentRules();
+        Sheet.tape(x, "a(b,c)");
+        SHEET.due("one THING of it", x.end(1), true);
+        SHEET.due("one THING of it", x.document(), 1);
+        Sheet.tape(x, "a=b*");
+        SHEET.due("RULES", x.rules(), 1);
+        Sheet.tape(x, "bb b");
+        SHEET.due("two letters of it", x.end(3), true);
+        SHEET.due("two letters of it", x.reads(0), 1);
+        SHEET.due("two letters of it", x.read(1), 2);
+    }
+
     private static void faultOfTwoKinds() {
         ContentRules x = new ContentRules();
         for (int what : new int[] {Integer.MIN_VALUE, -2, -1, 2, 3, Integer.MAX_VALUE}) {
@@ -521,6 +551,7 @@ public final class TextEdgesTest {
         feedTakesTwentyBytes();
         feedUpToFourHundred();
         endKeepsTheFirstBytes();
+        endHidesTheRest();
         faultOfTwoKinds();
         SHEET.close();
     }

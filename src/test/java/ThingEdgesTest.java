@@ -25,6 +25,8 @@ public final class ThingEdgesTest {
     // ---- promises 1, 5 and 6 ----
 
     private static void newObject() {
+        SHEET.due("the constant NONE", ContentRules.NONE, -1);
+        SHEET.due("the constant HIDDEN", ContentRules.HIDDEN, -1000000);
         ContentRules x = new ContentRules();
         SHEET.dueRow("no RULES, no DOCUMENT", counts(x), 0, 0, 0, 0, 0, 0, NONE, 0);
         SHEET.due("no RULES", SHEET.throwsFor(x, 0, 0), true);
